@@ -49,7 +49,9 @@ public final class MayBoats {
     private static final int GROUPS = 4;
 
     /** In the order of the numbers below, a blank behind each. */
-    private static final String WORDS = "town kind boat law year street hit draw beside cut streets before after wages rents try each end least or and not fell rose held of ";
+    private static final String LAND_WORDS = "town kind boat law year street hit draw ";
+    private static final String WAYS_WORDS = "beside cut streets before after wages rents try each end least ";
+    private static final String LINE_WORDS = "or and not fell rose held of ";
     private static final int WORDS_ALL = 26;
     private static final int W_TOWN = 0;
     private static final int W_KIND = 1;
@@ -137,7 +139,7 @@ public final class MayBoats {
         return grant();
     }
 
-    private static boolean within(long v, long least, long greatest) {
+    private static boolean isWithin(long v, long least, long greatest) {
         return v >= least && v <= greatest;
     }
 
@@ -152,7 +154,7 @@ public final class MayBoats {
     // ---- TRAYS
 
     public boolean tray(int tray, int sort, int many) {
-        if (!within(tray, 0, TRAYS - 1) || !within(sort, 0, 3)) {
+        if (!isWithin(tray, 0, TRAYS - 1) || !isWithin(sort, 0, 3)) {
             return refuse(NO_TRAY);
         }
         if (many > TRAY_MOST) {
@@ -169,13 +171,13 @@ public final class MayBoats {
 
     /** The STATUS of a place of a TRAY, 0 if it is there. */
     private int placeStatus(int tray, int place) {
-        if (!within(tray, 0, TRAYS - 1)) {
+        if (!isWithin(tray, 0, TRAYS - 1)) {
             return NO_TRAY;
         }
         if (sorts[tray] == NONE) {
             return MISSING;
         }
-        return within(place, 0, sizes[tray] - 1) ? 0 : NO_PLACE;
+        return isWithin(place, 0, sizes[tray] - 1) ? 0 : NO_PLACE;
     }
 
     public boolean write(int tray, int place, long v) {
@@ -207,7 +209,7 @@ public final class MayBoats {
     }
 
     public boolean pour(int tray, int i, int to, int j, int many) {
-        if (!within(tray, 0, TRAYS - 1) || !within(to, 0, TRAYS - 1)) {
+        if (!isWithin(tray, 0, TRAYS - 1) || !isWithin(to, 0, TRAYS - 1)) {
             return refuse(NO_TRAY);
         }
         if (sorts[tray] == NONE || sorts[to] == NONE) {
@@ -253,7 +255,7 @@ public final class MayBoats {
     }
 
     public int land(int n) {
-        if (!within(n, 0, tapeSize)) {
+        if (!isWithin(n, 0, tapeSize)) {
             return none(NO_NUMBER);
         }
         scanTape(n);
@@ -294,23 +296,23 @@ public final class MayBoats {
     }
 
     private boolean isTown(int town) {
-        return within(town, 0, book.land.towns - 1);
+        return isWithin(town, 0, book.land.towns - 1);
     }
 
     private boolean isKind(int kind) {
-        return within(kind, 0, book.land.kinds - 1);
+        return isWithin(kind, 0, book.land.kinds - 1);
     }
 
     private boolean isLaw(int law) {
-        return within(law, 0, book.land.laws - 1);
+        return isWithin(law, 0, book.land.laws - 1);
     }
 
     private boolean isBoat(int boat) {
-        return within(boat, 0, book.land.boats - 1);
+        return isWithin(boat, 0, book.land.boats - 1);
     }
 
     private boolean isSheet(int sheet) {
-        return within(sheet, 0, book.sheets - 1);
+        return isWithin(sheet, 0, book.sheets - 1);
     }
 
     private boolean areTowns(int set) {
@@ -329,7 +331,7 @@ public final class MayBoats {
         if (!isBoat(boat)) {
             return none(NO_SUCH);
         }
-        if (!within(what, 0, 1)) {
+        if (!isWithin(what, 0, 1)) {
             return none(NO_NUMBER);
         }
         return give(what == 0 ? book.land.boatTown[boat] : book.land.boatYear[boat]);
@@ -339,7 +341,7 @@ public final class MayBoats {
         if (!isLaw(law) || !isTown(town) || !isKind(kind)) {
             return none(NO_SUCH);
         }
-        if (!areYears(year, year) || !within(street, 0, STREETS_MOST - 1) || !within(draw, 0, 99)) {
+        if (!areYears(year, year) || !isWithin(street, 0, STREETS_MOST - 1) || !isWithin(draw, 0, 99)) {
             return none(NO_NUMBER);
         }
         return give(book.land.wageBy(law, town, year, kind, street, draw));
@@ -365,7 +367,7 @@ public final class MayBoats {
         if (!isSheet(sheet)) {
             return none(NO_SUCH);
         }
-        if (!within(what, 0, CELLS - 1)) {
+        if (!isWithin(what, 0, CELLS - 1)) {
             return none(NO_NUMBER);
         }
         int v = book.cell(sheet, what);
@@ -376,7 +378,7 @@ public final class MayBoats {
         if (!isSheet(sheet)) {
             return refuse(NO_SUCH);
         }
-        if (!within(v, NONE, WAGE_MOST)) {
+        if (!isWithin(v, NONE, WAGE_MOST)) {
             return refuse(NO_NUMBER);
         }
         book.setCell(sheet, rent ? CELL_RENT : CELL_WAGE, v);
@@ -397,7 +399,7 @@ public final class MayBoats {
         if ((kinds & ~allOf(book.land.kinds)) != 0) {
             return refuse(NO_SUCH);
         }
-        if (!within(streets, 0, allOf(STREETS_MOST))) {
+        if (!isWithin(streets, 0, allOf(STREETS_MOST))) {
             return refuse(NO_NUMBER);
         }
         book.sight.cut = kinds;
@@ -471,7 +473,7 @@ public final class MayBoats {
     // ---- DIFFER
 
     private boolean hasDiffer(int town) {
-        return tally.differs(book, book.sight, town, 1);
+        return tally.take(book, book.sight, town);
     }
 
     public boolean differ(int town) {
@@ -500,7 +502,7 @@ public final class MayBoats {
         int n = 0;
         for (int t = 0; t < book.land.towns; t++) {
             boolean plays = holds(played.beside, t) && book.land.boatTo(t) == NONE
-                    && tally.differs(book, played, t, 1);
+                    && tally.take(book, played, t);
             if (plays && (!farOnly || other.isReachedBy(tally.over(), tally.under()))) {
                 n++;
             }
@@ -526,7 +528,7 @@ public final class MayBoats {
         if (!isBoat(boat)) {
             return none(NO_SUCH);
         }
-        if (!within(n, 1, 8)) {
+        if (!isWithin(n, 1, 8)) {
             return none(NO_NUMBER);
         }
         if (!weaver.find(townOf(boat), n)) {
@@ -540,7 +542,7 @@ public final class MayBoats {
         if (!weaver.there) {
             return none(NOTHING);
         }
-        if (!within(town, 0, weaver.towns - 1)) {
+        if (!isWithin(town, 0, weaver.towns - 1)) {
             return none(NO_SUCH);
         }
         return give(weaver.weight[town]);
@@ -566,7 +568,7 @@ public final class MayBoats {
         if (!isBoat(boat)) {
             return none(NO_SUCH);
         }
-        if (!within(sheets, 1, SHEETS_MOST) || !within(below, -9999, 9999)) {
+        if (!isWithin(sheets, 1, SHEETS_MOST) || !isWithin(below, -9999, 9999)) {
             return none(NO_NUMBER);
         }
         int own = townOf(boat);
@@ -574,7 +576,7 @@ public final class MayBoats {
         played.copy(book.sight);
         for (int set = 1; set <= allOf(book.land.kinds); set++) {
             played.cut = set;
-            if (tally.differs(book, played, own, sheets) && tally.over() < below * tally.under()) {
+            if (tally.take(book, played, own) && tally.hasEach(sheets) && tally.over() < below * tally.under()) {
                 n++;
             }
         }
@@ -585,7 +587,7 @@ public final class MayBoats {
         if (!isBoat(boat)) {
             return none(NO_SUCH);
         }
-        if (!within(sheets, 1, SHEETS_MOST)) {
+        if (!isWithin(sheets, 1, SHEETS_MOST)) {
             return none(NO_NUMBER);
         }
         int own = townOf(boat);
@@ -593,7 +595,7 @@ public final class MayBoats {
         played.copy(book.sight);
         for (int set = 1; set <= allOf(book.land.kinds); set++) {
             played.cut = set;
-            if (tally.differs(book, played, own, sheets)
+            if (tally.take(book, played, own) && tally.hasEach(sheets)
                     && (best == NONE || other.isAbove(tally.over(), tally.under()))) {
                 best = set;
                 other.put(tally.over(), tally.under());
@@ -644,7 +646,7 @@ public final class MayBoats {
         if (!isBoat(boat)) {
             return refuse(NO_SUCH);
         }
-        if (!within(many, 0, 50) || !within(least, 0, WAGE_MOST) || !within(greatest, least, WAGE_MOST)) {
+        if (!isWithin(many, 0, 50) || !isWithin(least, 0, WAGE_MOST) || !isWithin(greatest, least, WAGE_MOST)) {
             return refuse(NO_NUMBER);
         }
         tally.take(book, book.sight, townOf(boat));
@@ -670,7 +672,7 @@ public final class MayBoats {
         if (!isBoat(boat)) {
             return none(NO_SUCH);
         }
-        if (!within(x, 1, WAGE_MOST)) {
+        if (!isWithin(x, 1, WAGE_MOST)) {
             return none(NO_NUMBER);
         }
         if (!hasDiffer(townOf(boat))) {
@@ -691,14 +693,14 @@ public final class MayBoats {
         played.copy(book.sight);
         played.putAfter(year, book.sight.to);
         played.putBefore(book.sight.from, year - 1);
-        return tally.differs(book, played, own, 1);
+        return tally.take(book, played, own);
     }
 
     public boolean earlier(int boat, int year) {
         if (!isBoat(boat)) {
             return refuse(NO_SUCH);
         }
-        if (!within(year, book.sight.from + 1L, book.sight.to)) {
+        if (!isWithin(year, book.sight.from + 1L, book.sight.to)) {
             return refuse(NO_NUMBER);
         }
         return hasEarlier(townOf(boat), year) ? tell(tally.over(), tally.under()) : refuse(NOTHING);
@@ -825,7 +827,7 @@ public final class MayBoats {
         if (!isLaw(law)) {
             return none(NO_SUCH);
         }
-        if (!within(seed, 0, SEED_MOST)) {
+        if (!isWithin(seed, 0, SEED_MOST)) {
             return none(NO_NUMBER);
         }
         int s = seed;
@@ -843,14 +845,14 @@ public final class MayBoats {
     }
 
     private static boolean areWorlds(int seed, int many) {
-        return within(seed, 0, SEED_MOST) && within(many, 1, WORLDS_MOST);
+        return isWithin(seed, 0, SEED_MOST) && isWithin(many, 1, WORLDS_MOST);
     }
 
     public int span(int boat, int law, int seed, int many, int what) {
         if (!isBoat(boat) || !isLaw(law)) {
             return none(NO_SUCH);
         }
-        if (!areWorlds(seed, many) || !within(what, 0, 2)) {
+        if (!areWorlds(seed, many) || !isWithin(what, 0, 2)) {
             return none(NO_NUMBER);
         }
         int own = townOf(boat);
@@ -880,7 +882,7 @@ public final class MayBoats {
         if (!isBoat(boat) || !isLaw(law)) {
             return refuse(NO_SUCH);
         }
-        if (!areWorlds(seed, many) || !within(within, 0, WAGE_MOST)) {
+        if (!areWorlds(seed, many) || !isWithin(within, 0, WAGE_MOST)) {
             return refuse(NO_NUMBER);
         }
         int own = townOf(boat);
@@ -904,7 +906,7 @@ public final class MayBoats {
     // ---- WAYS, MARKS
 
     private boolean isText(int n) {
-        return within(n, 0, Math.min(tapeSize, TEXT_MOST));
+        return isWithin(n, 0, Math.min(tapeSize, TEXT_MOST));
     }
 
     public int ways(int n) {
@@ -931,7 +933,7 @@ public final class MayBoats {
     }
 
     public int writ(int what) {
-        if (!within(what, 0, 2)) {
+        if (!isWithin(what, 0, 2)) {
             return none(NO_NUMBER);
         }
         if (!writing.there || what == 0 && writing.tries == 0) {
@@ -981,7 +983,7 @@ public final class MayBoats {
     }
 
     public int turning(int k) {
-        if (!within(k, 0, turner.found - 1)) {
+        if (!isWithin(k, 0, turner.found - 1)) {
             return none(NOTHING);
         }
         return give(k == 0 ? turner.first : turner.second);
@@ -1144,12 +1146,12 @@ public final class MayBoats {
 
         boolean fits(long[] row) {
             return row.length >= CELLS
-                    && within(row[CELL_TOWN], 0, land.towns - 1)
-                    && within(row[CELL_YEAR], 0, LAST_YEAR)
-                    && within(row[CELL_KIND], 0, land.kinds - 1)
-                    && within(row[CELL_STREET], 0, STREETS_MOST - 1)
-                    && within(row[CELL_WAGE], NONE, WAGE_MOST)
-                    && within(row[CELL_RENT], NONE, WAGE_MOST);
+                    && isWithin(row[CELL_TOWN], 0, land.towns - 1)
+                    && isWithin(row[CELL_YEAR], 0, LAST_YEAR)
+                    && isWithin(row[CELL_KIND], 0, land.kinds - 1)
+                    && isWithin(row[CELL_STREET], 0, STREETS_MOST - 1)
+                    && isWithin(row[CELL_WAGE], NONE, WAGE_MOST)
+                    && isWithin(row[CELL_RENT], NONE, WAGE_MOST);
         }
 
         int add(long[] row) {
@@ -1188,7 +1190,8 @@ public final class MayBoats {
             }
         }
 
-        void take(Book b, Sight s, int own) {
+        /** Takes the four MEANS of a TOWN; true if there is a DIFFER. */
+        boolean take(Book b, Sight s, int own) {
             clear();
             for (int i = 0; i < b.sheets; i++) {
                 int v = s.saidBy(b, i, s.cut);
@@ -1196,6 +1199,7 @@ public final class MayBoats {
                     put(s.groupOf(b, i, own), v);
                 }
             }
+            return hasEach(1) && !s.overlaps();
         }
 
         /** As take by the SIGHT, in a WORLD. */
@@ -1217,7 +1221,7 @@ public final class MayBoats {
             total = 0;
             for (int i = 0; i < b.sheets; i++) {
                 int v = b.sight.saidBy(b, i, b.sight.cut);
-                if (v >= 0 && holds(towns, b.cell(i, CELL_TOWN)) && within(b.cell(i, CELL_YEAR), from, to)) {
+                if (v >= 0 && holds(towns, b.cell(i, CELL_TOWN)) && isWithin(b.cell(i, CELL_YEAR), from, to)) {
                     picked++;
                     total += v;
                 }
@@ -1226,12 +1230,6 @@ public final class MayBoats {
 
         boolean hasEach(int least) {
             return count[0] >= least && count[1] >= least && count[2] >= least && count[3] >= least;
-        }
-
-        /** Whether there is a DIFFER, its MEANS of at least so many (1 and more) SHEETS. */
-        boolean differs(Book b, Sight s, int own, int least) {
-            take(b, s, own);
-            return !s.overlaps() && hasEach(least);
         }
 
         long under() {
@@ -1265,14 +1263,23 @@ public final class MayBoats {
         private final long[] keys = new long[WORDS_ALL];
         private int size;
         private int now;
+        private int sortNow = END;
+        private int wordNow = NONE;
+        private long valueNow;
         int faultKind = NONE;
         int faultPlace = NONE;
 
         Reader() {
-            int k = 0;
+            int next = addKeys(LAND_WORDS, 0);
+            next = addKeys(WAYS_WORDS, next);
+            addKeys(LINE_WORDS, next);
+        }
+
+        private int addKeys(String words, int from) {
+            int k = from;
             long packed = 0;
-            for (int i = 0; i < WORDS.length(); i++) {
-                char c = WORDS.charAt(i);
+            for (int i = 0; i < words.length(); i++) {
+                char c = words.charAt(i);
                 if (c != ' ') {
                     packed = packed * 32 + (c - 'a' + 1);
                 } else if (k < WORDS_ALL) {
@@ -1281,11 +1288,11 @@ public final class MayBoats {
                     packed = 0;
                 }
             }
+            return k;
         }
 
         void scan(byte[] tape, int n) {
             size = 0;
-            now = 0;
             faultKind = 0;
             faultPlace = NONE;
             int p = 0;
@@ -1307,6 +1314,8 @@ public final class MayBoats {
                 }
             }
             put(END, n, 0);
+            now = NONE;
+            skip();
         }
 
         private static boolean isLetter(int c) {
@@ -1361,53 +1370,52 @@ public final class MayBoats {
             return p;
         }
 
-        private boolean isNow(int what) {
-            return now >= 0 && now < size && now < TOKENS_MOST && sort[now] == what;
-        }
-
         boolean atEnd() {
-            return isNow(END);
+            return sortNow == END;
         }
 
         boolean isNumber() {
-            return isNow(NUMBER);
+            return sortNow == NUMBER;
         }
 
         boolean isSign(char c) {
-            return isNow(SIGN) && value[now] == c;
+            return sortNow == SIGN && valueNow == c;
         }
 
         /** Whether a NAME stands here, the words from first to last being none. */
         boolean isName(int first, int last) {
-            int w = word();
-            return isNow(WORD) && value[now] != 0 && !within(w, 0, W_DRAW) && !within(w, first, last);
+            boolean isKey = wordNow >= first && wordNow <= last || wordNow >= W_TOWN && wordNow <= W_DRAW;
+            return sortNow == WORD && valueNow != 0 && !isKey;
         }
 
-        /** The number of the word that stands here, NONE if it is none of WORDS. */
+        /** The number of the word that stands here, NONE if it is no key. */
         int word() {
-            return isNow(WORD) ? wordNumber[now] : NONE;
+            return wordNow;
         }
 
+        /** The letters of the WORD, packed, or the NUMBER that stands here. */
         long held() {
-            return now >= 0 && now < TOKENS_MOST ? value[now] : 0;
-        }
-
-        int number() {
-            return (int) held();
+            return valueNow;
         }
 
         void skip() {
-            if (now < size - 1) {
+            if (now + 1 < size && now + 1 >= 0 && now + 1 < TOKENS_MOST) {
                 now++;
+                sortNow = sort[now];
+                wordNow = wordNumber[now];
+                valueNow = value[now];
             }
         }
 
         /** A FAULT here; the rest of the text is passed over, so that it stays the first one. */
         void fail(int kind) {
             if (faultKind == 0 && now >= 0 && now < TOKENS_MOST) {
-                faultKind = sort[now] == BAD ? 1 : kind;
+                faultKind = sortNow == BAD ? 1 : kind;
                 faultPlace = place[now];
-                now = Math.max(0, size - 1);
+                now = TOKENS_MOST;
+                sortNow = END;
+                wordNow = NONE;
+                valueNow = 0;
             }
         }
 
@@ -1545,11 +1553,11 @@ public final class MayBoats {
             r.skip();
             if (!r.isNumber()) {
                 r.fail(2);
-            } else if (r.number() > LAST_YEAR) {
+            } else if ((int) r.held() > LAST_YEAR) {
                 r.fail(4);
             }
             boatTown[boats] = town;
-            boatYear[boats] = r.number();
+            boatYear[boats] = (int) r.held();
             boats++;
             r.skip();
             r.need(';');
@@ -1606,9 +1614,9 @@ public final class MayBoats {
         private void atomPart(Reader r, int depth) {
             int w = r.word();
             if (r.isNumber()) {
-                emit(r.number());
+                emit((int) r.held());
                 r.skip();
-            } else if (within(w, W_TOWN, W_DRAW) && w != W_BOAT && w != W_LAW) {
+            } else if (isWithin(w, W_TOWN, W_DRAW) && w != W_BOAT && w != W_LAW) {
                 emit(-1 - w);
                 r.skip();
             } else if (!r.isSign('(')) {
@@ -1844,7 +1852,7 @@ public final class MayBoats {
         private void stepPart(Reader r, Land land) {
             int w = r.word();
             boolean begins = w == W_EACH || w == W_LEAST;
-            if (!within(w, W_BESIDE, W_LEAST)) {
+            if (!isWithin(w, W_BESIDE, W_LEAST)) {
                 r.fail(2);
                 return;
             }
@@ -1913,12 +1921,12 @@ public final class MayBoats {
         }
 
         private static int numberWithin(Reader r, int least, int greatest) {
-            int v = r.number();
+            int v = (int) r.held();
             if (!r.isNumber()) {
                 r.fail(2);
                 return 0;
             }
-            if (!within(v, least, greatest)) {
+            if (!isWithin(v, least, greatest)) {
                 r.fail(4);
                 return 0;
             }
@@ -2015,7 +2023,7 @@ public final class MayBoats {
         }
 
         private void doTry() {
-            if (!tally.differs(book, book.sight, own, 1)) {
+            if (!tally.take(book, book.sight, own)) {
                 return;
             }
             boolean reaches = farthest.isReachedBy(tally.over(), tally.under());
@@ -2114,10 +2122,10 @@ public final class MayBoats {
 
         private void onePart(Reader r, Land land, int depth) {
             int w = r.word();
-            boolean claims21 = within(w, W_FELL, W_HELD) && claims >= CLAIMS_MOST;
-            if (!r.isSign('(') && !within(w, W_NOT, W_HELD)) {
+            boolean oneTooMany = isWithin(w, W_FELL, W_HELD) && claims >= CLAIMS_MOST;
+            if (!r.isSign('(') && !isWithin(w, W_NOT, W_HELD)) {
                 r.fail(2);
-            } else if (claims21) {
+            } else if (oneTooMany) {
                 r.fail(6);
             } else if (depth >= WITHIN_MOST) {
                 r.fail(7);
