@@ -61,7 +61,7 @@ public final class FuzzTest {
         String wanted = b + " " + due.status() + " " + due.top() + "/" + due.bottom()
                 + " " + due.fault(0) + "@" + due.fault(1);
         story.append(told).append(" -> ").append(wanted).append('\n');
-        seen.merge(name + " " + due.status(), 1, Integer::sum);
+        seen.merge(name + " " + due.status() + (due.status() == 10 ? " fault " + due.fault(0) : ""), 1, Integer::sum);
         if (!after.equals(wanted) && wrong++ == 0) {
             System.out.println(story + "... but it answered " + after);
         }
@@ -142,6 +142,15 @@ public final class FuzzTest {
         refresh();
     }
 
+    /** A dense LAND: most TOWNS have SHEETS in most of a few YEARS. */
+    private void fill() {
+        int many = 10 + below(55);
+        for (int i = 0; i < many && towns > 0 && kinds > 0; i++) {
+            sheet();
+        }
+        lookAtAll();
+    }
+
     private void refresh() {
         towns = due.many(0);
         kinds = due.many(1);
@@ -178,8 +187,8 @@ public final class FuzzTest {
 
     private String drawnLand() {
         StringBuilder b = new StringBuilder();
-        int t = now(90) ? 2 + below(4) : below(8);
-        int k = now(90) ? 1 + below(4) : below(8);
+        int t = now(85) ? 2 + below(3) : below(8);
+        int k = now(85) ? 1 + below(3) : below(8);
         for (int i = 0; i < t; i++) {
             b.append("town ").append(NAMES[i]).append("; ");
         }
@@ -250,7 +259,7 @@ public final class FuzzTest {
 
     private void sheet() {
         call("tray", 0, 1, 6);
-        int[] row = {number(towns), now(85) ? below(6) : number(12), number(kinds), now(70) ? below(2) : number(4),
+        int[] row = {number(towns), now(90) ? below(5) : number(12), number(kinds), now(70) ? below(2) : number(4),
             now(12) ? -1 : now(95) ? 20 * below(12) : from(-1, 999), now(25) ? -1 : now(95) ? below(300) : from(-1, 999)};
         for (int i = 0; i < 6; i++) {
             call("write", 0, i, (long) row[i]);
@@ -276,13 +285,15 @@ public final class FuzzTest {
             case 2 -> call("rents", now(30));
             case 3 -> call("years", 0, below(4), 4, 11);
             case 4 -> call("years", number(12), number(12), number(12), number(12));
-            default -> {
-                call("beside", (1 << towns) - 1);
-                call("cut", (1 << kinds) - 1, 15);
-                int last = below(4);
-                call("years", 0, last, last + 1, 11);
-            }
+            default -> lookAtAll();
         }
+    }
+
+    private void lookAtAll() {
+        call("beside", (1 << towns) - 1);
+        call("cut", (1 << kinds) - 1, 15);
+        int last = below(4);
+        call("years", 0, last, last + 1, 11);
     }
 
     private void ask() {
@@ -350,8 +361,11 @@ public final class FuzzTest {
 
     private void act() {
         int way = below(100);
-        if (way < 4) {
+        if (way < 2) {
             giveText("land", drawnLand());
+            if (due.many(4) == 0) {
+                fill();
+            }
         } else if (way < 9) {
             String s = drawnSteps(0);
             giveText("ways", s.length() > 300 ? "try;" : s);
@@ -361,11 +375,13 @@ public final class FuzzTest {
         } else if (way < 20) {
             call(now(60) ? "mark" : "back");
             refresh();
+        } else if (way < 22) {
+            lookAtAll();
         } else if (way < 27) {
             sight();
         } else if (way < 35) {
             trays();
-        } else if (way < 50) {
+        } else if (way < 40) {
             sheet();
         } else {
             ask();
@@ -373,14 +389,12 @@ public final class FuzzTest {
     }
 
     private int run() {
-        feed(drawnLand());
+        String first = drawnLand();
+        feed(first);
         call("land", 600);
-        call("land", 0);
-        giveText("land", drawnLand());
-        int first = 5 + below(40);
-        for (int i = 0; i < first; i++) {
-            sheet();
-        }
+        call("land", first.length());
+        refresh();
+        fill();
         for (int i = 0; i < ACTS && wrong == 0; i++) {
             act();
         }
