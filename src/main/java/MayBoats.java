@@ -1426,6 +1426,39 @@ public final class MayBoats {
                 fail(2);
             }
         }
+
+        int numberWithin(int least, int greatest) {
+            int v = (int) valueNow;
+            if (sortNow != NUMBER) {
+                fail(2);
+                return 0;
+            }
+            if (v < least || v > greatest) {
+                fail(4);
+                return 0;
+            }
+            skip();
+            return v;
+        }
+
+        /** The set of all NAMES that stand here, one and more, the words from first to last being none. */
+        int nameSet(long[] names, int many, int first, int last) {
+            int set = 0;
+            for (int k = 0; k < TAPE_MOST && (k == 0 || isName(first, last)); k++) {
+                int at = Land.placeOf(names, many, valueNow);
+                if (!isName(first, last)) {
+                    fail(2);
+                } else if (at == NONE) {
+                    fail(3);
+                } else if (holds(set, at)) {
+                    fail(5);
+                } else {
+                    set |= 1 << at;
+                    skip();
+                }
+            }
+            return set;
+        }
     }
 
     /** TOWNS, KINDS, BOATS and LAWS; a LAW is kept as steps on a stack. */
@@ -1551,15 +1584,9 @@ public final class MayBoats {
                 r.fail(5);
             }
             r.skip();
-            if (!r.isNumber()) {
-                r.fail(2);
-            } else if ((int) r.held() > LAST_YEAR) {
-                r.fail(4);
-            }
             boatTown[boats] = town;
-            boatYear[boats] = (int) r.held();
+            boatYear[boats] = r.numberWithin(0, LAST_YEAR);
             boats++;
-            r.skip();
             r.need(';');
         }
 
@@ -1881,57 +1908,25 @@ public final class MayBoats {
                 return;
             }
             if (w == W_BESIDE) {
-                first[steps] = (short) nameSet(r, land.townNames, land.towns);
+                first[steps] = (short) r.nameSet(land.townNames, land.towns, W_BESIDE, W_LEAST);
             } else if (w == W_CUT) {
-                first[steps] = (short) nameSet(r, land.kindNames, land.kinds);
+                first[steps] = (short) r.nameSet(land.kindNames, land.kinds, W_BESIDE, W_LEAST);
             } else if (w == W_STREETS) {
                 first[steps] = (short) streetSet(r);
             } else if (w == W_BEFORE || w == W_AFTER) {
-                first[steps] = (short) numberWithin(r, 0, LAST_YEAR);
-                second[steps] = (byte) numberWithin(r, first[steps], LAST_YEAR);
+                first[steps] = (short) r.numberWithin(0, LAST_YEAR);
+                second[steps] = (byte) r.numberWithin(first[steps], LAST_YEAR);
             } else if (w == W_LEAST) {
-                first[steps] = (short) numberWithin(r, 0, 9999);
+                first[steps] = (short) r.numberWithin(0, 9999);
             }
-        }
-
-        private static int nameSet(Reader r, long[] names, int many) {
-            int set = 0;
-            for (int k = 0; k < TAPE_MOST && (k == 0 || !r.isSign(';')) && !r.atEnd(); k++) {
-                int at = Land.placeOf(names, many, r.held());
-                if (!r.isName(W_BESIDE, W_LEAST)) {
-                    r.fail(2);
-                } else if (at == NONE) {
-                    r.fail(3);
-                } else if (holds(set, at)) {
-                    r.fail(5);
-                } else {
-                    set |= 1 << at;
-                    r.skip();
-                }
-            }
-            return set;
         }
 
         private static int streetSet(Reader r) {
-            int set = 1 << numberWithin(r, 0, STREETS_MOST - 1);
+            int set = 1 << r.numberWithin(0, STREETS_MOST - 1);
             for (int k = 0; k < TAPE_MOST && r.isNumber(); k++) {
-                set |= 1 << numberWithin(r, 0, STREETS_MOST - 1);
+                set |= 1 << r.numberWithin(0, STREETS_MOST - 1);
             }
             return set;
-        }
-
-        private static int numberWithin(Reader r, int least, int greatest) {
-            int v = (int) r.held();
-            if (!r.isNumber()) {
-                r.fail(2);
-                return 0;
-            }
-            if (!isWithin(v, least, greatest)) {
-                r.fail(4);
-                return 0;
-            }
-            r.skip();
-            return v;
         }
     }
 
@@ -2148,37 +2143,19 @@ public final class MayBoats {
             }
             r.skip();
             claim[claims] = (byte) w;
-            size[claims] = (short) Ways.numberWithin(r, 0, 9999);
+            size[claims] = (short) r.numberWithin(0, 9999);
             kinds[claims] = 0;
             least[claims] = 1;
             if (r.word() == W_OF) {
                 r.skip();
-                kinds[claims] = (byte) kindSet(r, land);
+                kinds[claims] = (byte) r.nameSet(land.kindNames, land.kinds, W_LEAST, W_OF);
             }
             if (r.word() == W_LEAST) {
                 r.skip();
-                least[claims] = (byte) Ways.numberWithin(r, 1, SHEETS_MOST);
+                least[claims] = (byte) r.numberWithin(1, SHEETS_MOST);
             }
             emit(claims);
             claims++;
-        }
-
-        private static int kindSet(Reader r, Land land) {
-            int set = 0;
-            for (int k = 0; k < TEXT_MOST && (k == 0 || r.isName(W_LEAST, W_OF)); k++) {
-                int at = Land.placeOf(land.kindNames, land.kinds, r.held());
-                if (!r.isName(W_LEAST, W_OF)) {
-                    r.fail(2);
-                } else if (at == NONE) {
-                    r.fail(3);
-                } else if (holds(set, at)) {
-                    r.fail(5);
-                } else {
-                    set |= 1 << at;
-                    r.skip();
-                }
-            }
-            return set;
         }
 
         /** What a CLAIM is by the four MEANS: 2, 1, 0. */
