@@ -1356,7 +1356,7 @@ public final class MayBoats {
             for (; p < n && p < tape.length && isLetter(tape[p]); p++) {
                 packed = p - from < 8 ? packed * 32 + (tape[p] - 'a' + 1) : 0;
             }
-            put(WORD, from, p - from > 8 ? 0 : packed);
+            put(WORD, from, packed);
             return p;
         }
 
@@ -1486,10 +1486,10 @@ public final class MayBoats {
         int boats;
         int codeSize;
 
+        /** All but what matters just while a text is read. */
         void copy(Land l) {
             System.arraycopy(l.townNames, 0, townNames, 0, TOWNS_MOST);
             System.arraycopy(l.kindNames, 0, kindNames, 0, KINDS_MOST);
-            System.arraycopy(l.lawNames, 0, lawNames, 0, LAWS_MOST);
             System.arraycopy(l.boatTown, 0, boatTown, 0, BOATS_MOST);
             System.arraycopy(l.boatYear, 0, boatYear, 0, BOATS_MOST);
             System.arraycopy(l.lawEnd, 0, lawEnd, 0, LAWS_MOST);
@@ -1498,7 +1498,6 @@ public final class MayBoats {
             kinds = l.kinds;
             laws = l.laws;
             boats = l.boats;
-            codeSize = l.codeSize;
         }
 
         void parse(Reader r) {

@@ -101,6 +101,23 @@ public final class DifferTest {
         c.is("30 as many TOWNS, no SHEETS", x, x.gap(0), 8);
     }
 
+    /** a goes as d goes; then half as b, half as d. */
+    private static void weaveFour() {
+        MayBoats x = Checks.of("town a; town b; town c; town d; kind x; boat a 6;");
+        int[] wages = {30, 10, 500, 30};
+        for (int t = 0; t < 4; t++) {
+            Checks.sheet(x, t, 0, 0, 0, wages[t], -1);
+        }
+        x.years(0, 0, 6, 11);
+        c.is("28 one of three", x, x.weave(0, 3), 0, 0);
+        weights(x, 0, 0, 0);
+        c.is("29 WEIGHT of d", x, x.woven(3), 3, 0);
+        x.say(0, false, 20);
+        c.is("28 two of three", x, x.weave(0, 6), 0, 0);
+        weights(x, 0, 3, 0);
+        c.is("29 WEIGHT of d", x, x.woven(3), 3, 0);
+    }
+
     private static void prices() {
         MayBoats x = Checks.of("town a; town b; kind x; boat a 6;");
         for (int i = 0; i < 7; i++) {
@@ -338,6 +355,7 @@ public final class DifferTest {
     public static void main(String[] args) {
         farAndChance();
         weave();
+        weaveFour();
         prices();
         cuts();
         right();

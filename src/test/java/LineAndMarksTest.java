@@ -62,6 +62,7 @@ public final class LineAndMarksTest {
         faultIs("fell 1 of 3;", 2, 10);
         faultIs("fell 1 of least 3;", 2, 10);
         faultIs("fell 1 of town;", 2, 10);
+        faultIs("fell 1 of draw;", 2, 10);
         faultIs("fell 1 of abcdefghi;", 2, 10);
         faultIs("fell 1 of x fell 2;", 2, 12);
         faultIs("fell 1 of x of y;", 2, 12);

@@ -237,6 +237,14 @@ public final class TraysAndLandTest {
         Checks.land(x, "q");
         x.land(99);
         c.is("11 a call with 5 is none", x.fault(0), 2);
+        Checks.feed(x, "town a; boat a 12345;");
+        c.is("11 just the first bytes", x, x.land(16), -1, 10);
+        c.is("11 the NUMBER ends there", x.fault(0), 2);
+        c.is("11 the NUMBER ends there", x.fault(1), 16);
+        Checks.feed(x, "town abcdefghijk;");
+        x.land(13);
+        c.is("11 the WORD ends there", x.fault(0), 2);
+        c.is("11 the WORD ends there", x.fault(1), 13);
         c.is("11 others", x.fault(2), -1);
         c.is("11 others", x.fault(-1), -1);
         c.is("11 eight letters, no blanks", x, Checks.land(x, "town abcdefgh;kind try;law least 0012*3;"), 1, 0);
@@ -286,6 +294,12 @@ public final class TraysAndLandTest {
         told("1000*1000*1000*1000*1000*1000*100", 999, 0, 0, 0);
         told("1000*1000*1000*1000*1000*1000*1000", 999, 0, 0, 0);
         told("1000*1000*1000*1000*1000*1000*10", 0, 0, 0, 0);
+        StringBuilder sum = new StringBuilder("town a; kind x; law l 1");
+        while (sum.length() < 597) {
+            sum.append("+1");
+        }
+        MayBoats y = Checks.of(sum.append(";").toString());
+        c.is("14 a long LAW", y, y.tells(0, 0, 0, 0, 0, 0), 288, 0);
         MayBoats x = Checks.of(Checks.LAND);
         c.is("14 no LAW", x, x.tells(1, 0, 12, 0, 0, 0), -1, 2);
         c.is("14 no TOWN", x, x.tells(0, 3, 0, 0, 0, 0), -1, 2);

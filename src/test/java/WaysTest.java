@@ -16,6 +16,7 @@ public final class WaysTest {
         c.is("46 nothing is done", x, x.written(0), 0, 0);
         c.is("46 taken", x, Checks.ways(x, "beside a c;cut y x;streets 0 3 3;before 0 11;after 2 2;wages;rents;try;"), 8, 0);
         c.is("46 no FAULT", x.fault(0), 0);
+        c.is("46 STREETS in any order", x, Checks.ways(x, "streets 3 0 2 1;"), 1, 0);
         c.is("46 end is no STEP", x, Checks.ways(x, "each; least 0003; each; try; end; end; end; try; try;"), 6, 0);
         c.is("46 beginnings side by side", x,
                 Checks.ways(x, "each;end;each;end;each;end;each;end;least 9999;each;each;end;end;end;"), 7, 0);
@@ -46,6 +47,8 @@ public final class WaysTest {
         faultIs("beside 1;", 2, 7);
         faultIs("beside a try;", 2, 9);
         faultIs("beside town;", 2, 7);
+        faultIs("beside draw;", 2, 7);
+        faultIs("beside a least;", 2, 9);
         faultIs("beside abcdefghi;", 2, 7);
         faultIs("cut end;", 2, 4);
         faultIs("cut x +;", 2, 6);
