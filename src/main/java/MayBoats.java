@@ -57,6 +57,9 @@ public final class MayBoats {
     private static final int W_KIND = 1;
     private static final int W_BOAT = 2;
     private static final int W_LAW = 3;
+    private static final int W_YEAR = 4;
+    private static final int W_STREET = 5;
+    private static final int W_HIT = 6;
     private static final int W_DRAW = 7;
     private static final int W_BESIDE = 8;
     private static final int W_CUT = 9;
@@ -1043,6 +1046,11 @@ public final class MayBoats {
             return Math.abs(o) * under >= Math.abs(over) * u;
         }
 
+        /** Whether another one is greater in size. */
+        boolean isPassedBy(long o, long u) {
+            return Math.abs(o) * under > Math.abs(over) * u;
+        }
+
         boolean isAbove(long o, long u) {
             return over * u > o * under;
         }
@@ -1661,9 +1669,9 @@ public final class MayBoats {
             int b = boatTo(town);
             variables[W_TOWN] = town;
             variables[W_KIND] = kind;
-            variables[4] = year;
-            variables[5] = street;
-            variables[6] = b != NONE && boatYear[b] <= year ? 1 : 0;
+            variables[W_YEAR] = year;
+            variables[W_STREET] = street;
+            variables[W_HIT] = b != NONE && boatYear[b] <= year ? 1 : 0;
             variables[W_DRAW] = draw;
             return (int) Math.max(0L, Math.min(WAGE_MOST, runLaw(law)));
         }
@@ -2020,9 +2028,7 @@ public final class MayBoats {
             if (!tally.take(book, book.sight, own)) {
                 return;
             }
-            boolean reaches = farthest.isReachedBy(tally.over(), tally.under());
-            boolean equals = Math.abs(tally.over()) * farthest.under == Math.abs(farthest.over) * tally.under();
-            if (tries == 0 || reaches && !equals) {
+            if (tries == 0 || farthest.isPassedBy(tally.over(), tally.under())) {
                 farthestTry = tries;
                 farthest.put(tally.over(), tally.under());
             }
@@ -2047,8 +2053,12 @@ public final class MayBoats {
                 case W_AFTER:
                     s.putAfter(first, second);
                     break;
-                default:
+                case W_WAGES:
+                case W_RENTS:
                     s.rents = step == W_RENTS;
+                    break;
+                default:
+                    break;
             }
         }
     }

@@ -18,6 +18,8 @@ public final class FuzzTest {
 
     private final Random random;
     private final Map<String, Integer> seen;
+    /** All WAGES, with unlike divisors, not just a few that meet often. */
+    private final boolean wide;
     private final StringBuilder story = new StringBuilder();
     private MayBoats ours = new MayBoats();
     private Oracle due = new Oracle();
@@ -29,6 +31,7 @@ public final class FuzzTest {
 
     private FuzzTest(long seed, Map<String, Integer> seen) {
         this.random = new Random(seed);
+        this.wide = now(30);
         this.seen = seen;
     }
 
@@ -260,7 +263,8 @@ public final class FuzzTest {
     private void sheet() {
         call("tray", 0, 1, 6);
         int[] row = {number(towns), now(90) ? below(5) : number(12), number(kinds), now(70) ? below(2) : number(4),
-            now(12) ? -1 : now(95) ? 20 * below(12) : from(-1, 999), now(25) ? -1 : now(95) ? below(300) : from(-1, 999)};
+            now(12) ? -1 : wide ? below(1000) : now(95) ? 20 * below(12) : from(-1, 999),
+            now(25) ? -1 : now(95) ? below(300) : from(-1, 999)};
         for (int i = 0; i < 6; i++) {
             call("write", 0, i, (long) row[i]);
         }
