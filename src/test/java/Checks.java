@@ -1,3 +1,7 @@
+import java.lang.reflect.Method;
+import java.util.Arrays;
+import java.util.Comparator;
+
 /** What the tests of the promises share: counting wrong answers, texts for the tape, sheets in a row. */
 final class Checks {
     static final String LAND = "town a; town b; town c; kind x; kind y; boat a 6; law l 100 + 10 * kind - 30 * hit;";
@@ -38,6 +42,36 @@ final class Checks {
         is("bottom() behind " + what, x.bottom(), bottom);
     }
 
+    /** A text that is refused, with its FAULT and the place of that. */
+    void fault(String what, MayBoats x, int answer, int kind, int place) {
+        is(what, x, answer, -1, 10);
+        is("fault(0) behind " + what, x.fault(0), kind);
+        is("fault(1) behind " + what, x.fault(1), place);
+    }
+
+    /** A text that is taken. */
+    void taken(String what, MayBoats x, int answer, int want) {
+        is(what, x, answer, want, 0);
+        is("fault(0) behind " + what, x.fault(0), 0);
+        is("fault(1) behind " + what, x.fault(1), -1);
+    }
+
+    /** Calls every method of a test that takes nothing, but main, by the order of their names. */
+    static void callAll(Class<?> test) {
+        Method[] all = test.getDeclaredMethods();
+        Arrays.sort(all, Comparator.comparing(Method::getName));
+        for (Method m : all) {
+            if (m.getParameterCount() == 0 && m.getReturnType() == void.class && !m.isSynthetic()) {
+                try {
+                    m.setAccessible(true);
+                    m.invoke(null);
+                } catch (ReflectiveOperationException e) {
+                    throw new IllegalStateException(m.getName(), e);
+                }
+            }
+        }
+    }
+
     static int feed(MayBoats x, String text) {
         int answer = 0;
         for (int i = 0; i < text.length(); i += 20) {
@@ -71,6 +105,28 @@ final class Checks {
         land(x, land);
         x.tray(3, 3, 6);
         return x;
+    }
+
+    /** SHEETS one behind the other: TOWN, YEAR, KIND, STREET, WAGE, RENT of each. */
+    static MayBoats of(String land, int[]... sheets) {
+        MayBoats x = of(land);
+        for (int[] s : sheets) {
+            sheet(x, s[0], s[1], s[2], s[3], s[4], s[5]);
+        }
+        return x;
+    }
+
+    /** Just TOWN, YEAR, WAGE of each; KIND 0, STREET 0, no RENT. */
+    static MayBoats plain(String land, int[]... sheets) {
+        MayBoats x = of(land);
+        for (int[] s : sheets) {
+            sheet(x, s[0], s[1], 0, 0, s[2], -1);
+        }
+        return x;
+    }
+
+    static int[] row(int... numbers) {
+        return numbers;
     }
 
     static int sheet(MayBoats x, long... six) {
