@@ -114,7 +114,59 @@ public final class DifferEdgesTest {
         c.tells("d has none AFTER", x, x.chance(0), 1, 3);
     }
 
+    private static void theFirstTownIsPlayed() {
+        // c is struck; a is PLAYED with 10, b with -10, the BOAT's own is 20 less 5.
+        MayBoats x = pairs("town a;town b;town c;kind x;boat c 6;", 0, 10, 0, 0, 0, 20);
+        c.tells("the BOAT's own", x, x.differ(2), 15, 1);
+        c.tells("1 of 3", x, x.chance(0), 1, 3);
+        x.say(5, false, 15);
+        c.is("both as great as 10", x, x.far(0), 2, 0);
+    }
+
     // ---- promises 28 to 30
+
+    private static void aBoatToTheLastTown() {
+        MayBoats x = pairs("town a;town b;town c;kind x;boat a 1;boat c 6;", 10, 20, 30, 1, 20, 0);
+        x.years(0, 0, 6, 6);
+        c.is("half of a, half of b", x, x.weave(1, 2), 0, 0);
+        c.is("WEIGHT of a", x, x.woven(0), 1, 0);
+        c.is("WEIGHT of b", x, x.woven(1), 1, 0);
+        c.is("WEIGHT of c", x, x.woven(2), 0, 0);
+        c.tells("its own PRICE is 0 there", x, x.gap(6), -21, 2);
+        x.say(1, false, -1);
+        c.is("a has a WEIGHT and no PRICE", x, x.gap(6), 8);
+        c.tells("nought", x, x.gap(0), 0, 1);
+    }
+
+    private static void overAllYearsOfBeforeAlone() {
+        MayBoats x = Checks.plain(TWO, Checks.row(0, 0, 1), Checks.row(0, 1, 9), Checks.row(1, 0, 0), Checks.row(1, 1, 0));
+        x.years(0, 1, 6, 6);
+        c.is("both YEARS", x, x.weave(0, 1), 60 * 60 + 540 * 540, 0);
+        x.years(0, 0, 6, 6);
+        c.is("the first one", x, x.weave(0, 1), 60 * 60, 0);
+        x.years(1, 1, 6, 6);
+        c.is("the last one", x, x.weave(0, 1), 540 * 540, 0);
+    }
+
+    private static void fewerTownsThanAtTheLastWeave() {
+        MayBoats x = pairs(FOUR, 10, 0, 0, 0, 10, 0, 30, 0);
+        x.years(0, 0, 6, 6);
+        c.is("all", x, x.weave(0, 3), 0, 0);
+        int[] all = {0, 2, 0, 1};
+        for (int t = 0; t < 4; t++) {
+            c.is("WEIGHT of " + t, x, x.woven(t), all[t], 0);
+        }
+        x.beside(2 + 4);
+        c.is("b and c", x, x.weave(0, 3), 0, 0);
+        c.is("WEIGHT of c", x, x.woven(2), 3, 0);
+        c.is("WEIGHT of d", x, x.woven(3), 0, 0);
+        x.beside(8);
+        c.is("d alone", x, x.weave(0, 3), 3600L * 3600, 0);
+        c.is("WEIGHT of d", x, x.woven(3), 3, 0);
+        c.is("WEIGHT of c", x, x.woven(2), 0, 0);
+        x.beside(2);
+        c.is("b alone", x, x.weave(0, 1), 600 * 600, 0);
+    }
 
     private static void wovenBy1To8() {
         MayBoats x = pairs(TWO, 10, 0, 5, 0);
@@ -328,6 +380,26 @@ public final class DifferEdgesTest {
         c.fraction("its DIFFER", x, -999, 1);
         c.is("none", x, x.deepest(0, 7), -1, 8);
         c.fraction("as it was", x, -999, 1);
+    }
+
+    private static void deepestOfFractions() {
+        // KIND g goes 1 by 2, KIND h goes 1 by 3; both together 2 by 5.
+        MayBoats x = Checks.of("town a;town b;kind g;kind h;boat a 6;", Checks.row(0, 0, 0, 0, 0, -1),
+                Checks.row(0, 6, 0, 0, 0, -1), Checks.row(0, 6, 0, 0, 1, -1), Checks.row(0, 0, 1, 0, 0, -1),
+                Checks.row(0, 6, 1, 0, 0, -1), Checks.row(0, 6, 1, 0, 0, -1), Checks.row(0, 6, 1, 0, 1, -1));
+        for (int kind = 0; kind < 2; kind++) {
+            Checks.sheet(x, 1, 0, kind, 0, 5, -1);
+            Checks.sheet(x, 1, 6, kind, 0, 5, -1);
+        }
+        c.is("h", x, x.deepest(0, 1), 2, 0);
+        c.fraction("h", x, 1, 3);
+        c.is("all are below 1", x, x.cuts(0, 1, 1), 3, 0);
+        c.is("none is below 0", x, x.cuts(0, 1, 0), 0, 0);
+        for (int i = 0; i < 7; i++) {
+            x.say(i, false, 1 - x.look(i, 4));
+        }
+        c.is("below 0 it is g", x, x.deepest(0, 1), 1, 0);
+        c.fraction("g", x, -1, 2);
     }
 
     // ---- promise 33

@@ -626,6 +626,28 @@ public final class LandEdgesTest {
         told("10-(3-2)", 9);
     }
 
+    private static void theLawsOfALaterLand() {
+        MayBoats x = new MayBoats();
+        String[] laws = {"law l 1;law m 2;", "law l 3+4;law m 5;", "law l 6;law m 7*8;", "law l 9;"};
+        int[][] want = {{1, 2}, {7, 5}, {6, 56}, {9, -1}};
+        for (int k = 0; k < 4; k++) {
+            c.taken("LAND " + k, x, Checks.land(x, "town a;kind k;" + laws[k]), 1);
+            c.is("its first LAW", x.tells(0, 0, 0, 0, 0, 0), want[k][0]);
+            c.is("its second LAW", x.tells(1, 0, 0, 0, 0, 0), want[k][1]);
+            c.is("refused", x, Checks.land(x, "law z 1+2+3!"), -1, 10);
+            c.is("its first LAW stays", x.tells(0, 0, 0, 0, 0, 0), want[k][0]);
+        }
+    }
+
+    private static void aLawAsLongAsCanBe() {
+        String text = "kind k;town aa;law l1" + "+1".repeat(289);
+        MayBoats x = taken(text + ";", 1);
+        c.is("290 times 1", x, x.tells(0, 0, 0, 0, 0, 0), 290, 0);
+        fault(text + "+", 2, 600);
+        fault(text + ")", 2, 599);
+        fault(text + "!", 1, 599);
+    }
+
     private static void hitInThatYearOrAhead() {
         MayBoats x = Checks.of("town a;town b;town c;kind k;boat a 0;boat b 11;law l hit;");
         c.is("in the first YEAR", x, x.tells(0, 0, 0, 0, 0, 0), 1, 0);

@@ -263,6 +263,16 @@ public final class TextsEdgesTest {
         waysFault("least 1 2;end;", 2, 8);
     }
 
+    private static void openBeginningsOfRefusedWays() {
+        MayBoats x = Checks.of(TWO);
+        for (int k = 0; k < 3; k++) {
+            c.fault("refused", x, Checks.ways(x, "each;each;each;!"), 1, 15);
+            c.fault("no beginning", x, Checks.ways(x, "end;"), 2, 0);
+            c.fault("refused", x, Checks.ways(x, "each;each;each;!"), 1, 15);
+            c.taken("taken", x, Checks.ways(x, "each;each;each;end;end;end;"), 3);
+        }
+    }
+
     private static void theNamesOfWays() {
         waysTaken(TWO, "beside a;beside b a;cut x;cut y x;", 4);
         waysFault("beside c;", 3, 7);
@@ -381,6 +391,42 @@ public final class TextsEdgesTest {
         MayBoats y = Checks.of("town a;boat a 6;");
         wrote(y, "each;try;end;", 0, 1, 0);
         c.is("48 no TRY", y, y.writ(0), -1, 8);
+    }
+
+    private static void stepsByStreets() {
+        // Of STREET k TOWN a goes by 10 times 2 to the k; b stays in all of them.
+        MayBoats x = Checks.of(TWO);
+        for (int street = 0; street < 4; street++) {
+            Checks.sheet(x, 0, 0, 0, street, 0, -1);
+            Checks.sheet(x, 0, 6, 0, street, 10 << street, -1);
+            Checks.sheet(x, 1, 0, 0, street, 5, -1);
+            Checks.sheet(x, 1, 6, 0, street, 5, -1);
+        }
+        String[] steps = {"0", "1", "2", "3", "0 1", "3 0", "1 2 3", "3 2 1 0", "2 2"};
+        int[][] want = {{10, 1}, {20, 1}, {40, 1}, {80, 1}, {15, 1}, {45, 1}, {140, 3}, {75, 2}, {40, 1}};
+        for (int k = 0; k < steps.length; k++) {
+            wrote(x, "streets " + steps[k] + ";try;", 1, 2, 0);
+            farthest(x, 0, want[k][0], want[k][1]);
+        }
+    }
+
+    private static void stepsByYears() {
+        MayBoats x = Checks.plain(TWO, Checks.row(0, 0, 10), Checks.row(0, 3, 20), Checks.row(0, 11, 50),
+                Checks.row(1, 0, 5), Checks.row(1, 3, 5), Checks.row(1, 11, 5));
+        wrote(x, "before 0 2;after 3 3;try;", 1, 3, 0);
+        farthest(x, 0, 10, 1);
+        wrote(x, "before 3 10;after 11 11;try;", 1, 3, 0);
+        farthest(x, 0, 30, 1);
+        wrote(x, "before 0 3;try;", 1, 2, 0);
+        farthest(x, 0, 35, 1);
+        wrote(x, "before 0 6;try;after 7 11;try;", 1, 4, 0);
+        farthest(x, 0, 35, 1);
+    }
+
+    private static void writtenByABoatToTheLastTown() {
+        MayBoats x = four("town a;town b;kind x;boat b 6;", 0, 7, 0, 9);
+        wrote(x, "try;beside a;try;beside b;try;", 2, 5, 0);
+        farthest(x, 0, 2, 1);
     }
 
     private static void theFirstWithTheGreatestSize() {
@@ -668,6 +714,20 @@ public final class TextsEdgesTest {
         }
     }
 
+    private static void twentyClaimsSaid() {
+        // Each next one holds 1 more; the DIFFER is -10, so the first ten are not so.
+        MayBoats x = four(TWO, 10, 0, 10, 10);
+        StringBuilder ands = new StringBuilder("fell 0");
+        StringBuilder ors = new StringBuilder("held 0");
+        for (int k = 1; k < 20; k++) {
+            ands.append(k < 19 ? " and fell 1" : " and held 9");
+            ors.append(k < 19 ? " or held 0 of x" : " or held 10");
+        }
+        saidIs(x, ands + ";", 0);
+        saidIs(x, ors + ";", 2);
+        turnedIs(x, ors + ";", 0);
+    }
+
     private static void aLineInAnotherLand() {
         MayBoats x = four(TWO, 10, 0, 10, 10);
         Checks.line(x, "fell 1 of y or rose 999 of x;");
@@ -856,6 +916,34 @@ public final class TextsEdgesTest {
         c.is("the last one's TOWN", x, x.look(59, 0), 5, 0);
         c.is("BESIDE", x, x.sight(0), 63, 0);
         c.taken("NAMES", x, Checks.ways(x, "beside f;cut m;"), 2);
+    }
+
+    private static void aMarkKeepsWays() {
+        MayBoats x = kinds();
+        wrote(x, "each;streets 0 1;before 0 4;after 5 6;try;end;least 21;cut x;try;end;", 2, 1 + 2 * 4 + 1, 0);
+        x.mark();
+        Checks.ways(x, "try;rents;wages;least 9999;least 9999;streets 3;before 7 9;after 10 10;end;end;try;");
+        x.written(0);
+        x.back();
+        c.is("47 as it was", x, x.written(0), 2, 0);
+        c.is("48 as it was", x, x.writ(1), 10, 0);
+        farthest(x, 1, 30, 1);
+    }
+
+    private static void aMarkKeepsTheLine() {
+        MayBoats x = four(TWO, 10, 0, 10, 10);
+        String[] lines = {"not rose 1 of x and fell 10;", "fell 11;", "fell 1 least 2;", "fell 1 of y or fell 11;",
+            "rose 1 or (held 9 or held 10) and not fell 99 of y;"};
+        int[] want = {2, 0, 1, 1, 1};
+        for (int k = 0; k < lines.length; k++) {
+            for (String other : new String[] {"rose 0;", "fell 1 of y x least 60 or not held 5 of x;", "not fell 3;"}) {
+                saidIs(x, lines[k], want[k]);
+                x.mark();
+                Checks.line(x, other);
+                x.back();
+                c.is("54 " + lines[k], x, x.said(0), want[k], 0);
+            }
+        }
     }
 
     private static void aWorldIsTakenBack() {
