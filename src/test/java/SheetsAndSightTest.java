@@ -19,7 +19,7 @@ public final class SheetsAndSightTest {
         c.is("15 the first", x, Checks.sheet(x, 2, 11, 1, 3, 999, -1), 0, 0);
         c.is("15 a longer TRAY", x, Checks.sheet(x, 0, 0, 0, 0, -1, 0, 77, 88), 1, 0);
         for (int i = 2; i < 60; i++) {
-            c.is("15 more", x, Checks.sheet(x, 0, 0, 0, 0, i, 0), i, 0);
+            c.is("15 more", x, x.sheet(3), i, 0);
         }
         c.is("15 one too many", x, Checks.sheet(x, 0, 0, 0, 0, 0, 0), -1, 7);
         c.is("15 5 ahead of 7", x, Checks.sheet(x, 0, 0, 0, 0, 0, 1000), -1, 5);
