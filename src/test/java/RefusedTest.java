@@ -275,6 +275,56 @@ public final class RefusedTest {
         c.is("turned with 9 changes nothing", all(x, true, true).equals(all(y, true, true)), true);
     }
 
+    /** With a LAND and SHEETS, but no LINE, WAYS, weave(), written(), turned(). */
+    private static MayBoats bare() {
+        MayBoats x = new MayBoats();
+        x.tray(0, 1, 6);
+        Checks.land(x, LAND);
+        sheet(x, 0, 0, 0, 0, 10, 20);
+        sheet(x, 1, 6, 1, 2, 30, 40);
+        x.mean(0, 0, 0);
+        Checks.feed(x, "fell 2;");
+        return x;
+    }
+
+    private static void early(String what, long answer, Call call) {
+        MayBoats x = bare();
+        c.is(what, x, call.on(x), answer, 8);
+        c.is(what + " with 8 changes nothing", all(x, true, true).equals(all(bare(), true, true)), true);
+    }
+
+    private static void nothingFoundYet() {
+        early("woven", -1, x -> x.woven(0));
+        early("gap", 0, x -> of(x.gap(0)));
+        early("writ", -1, x -> x.writ(0));
+        early("writ", -1, x -> x.writ(1));
+        early("said", -1, x -> x.said(0));
+        early("turned", -1, x -> x.turned(0));
+        early("turning", -1, x -> x.turning(0));
+        early("joined", 0, x -> of(x.joined()));
+    }
+
+    private static void noTry() {
+        MayBoats x = bare();
+        MayBoats y = bare();
+        x.written(0);
+        y.written(0);
+        c.is("writ", x, x.writ(0), -1, 8);
+        c.is("writ with 8 changes nothing", all(x, true, true).equals(all(y, true, true)), true);
+    }
+
+    private static MayBoats another() {
+        MayBoats x = made();
+        x.land(0);
+        return x;
+    }
+
+    private static void notAsManyTowns() {
+        MayBoats x = another();
+        c.is("gap", x, x.gap(0), 9);
+        c.is("gap with 9 changes nothing", all(x, true, true).equals(all(another(), true, true)), true);
+    }
+
     private static void marksAreFull() {
         MayBoats x = made();
         MayBoats y = made();
