@@ -220,7 +220,8 @@ public final class FuzzTest {
                 left--;
             }
         }
-        return many == 0 ? " q" : b.toString();
+        // At times a NAME again, which is a FAULT of its own.
+        return many == 0 ? " q" : now(4) ? b + " " + NAMES[first + below(many)] : b.toString();
     }
 
     private String drawnSteps(int depth) {
@@ -231,7 +232,7 @@ public final class FuzzTest {
                 case 0 -> b.append("beside").append(names(0, towns)).append("; ");
                 case 1 -> b.append("cut").append(names(6, kinds)).append("; ");
                 case 2 -> b.append("streets ").append(below(4)).append(now(50) ? " 1" : "").append("; ");
-                case 3 -> b.append("before 0 ").append(below(5)).append("; ");
+                case 3 -> b.append("before ").append(now(90) ? 0 : below(4)).append(' ').append(below(5)).append("; ");
                 case 4 -> b.append("after ").append(2 + below(4)).append(" 11; ");
                 case 5 -> b.append(now(50) ? "wages; " : "rents;");
                 case 6 -> b.append(begin(depth, "each"));
@@ -256,6 +257,16 @@ public final class FuzzTest {
         String claim = new String[] {"fell ", "rose ", "held "}[below(3)] + (now(80) ? below(120) : below(2));
         claim += now(30) ? " of" + names(6, kinds) : "";
         return claim + (now(25) ? " least " + (now(90) ? 1 + below(3) : below(64)) : "");
+    }
+
+    /** CLAIMS about as many as a LINE may have. */
+    private String longLine() {
+        StringBuilder b = new StringBuilder("held 40");
+        int many = 18 + below(5);
+        for (int i = 1; i < many; i++) {
+            b.append(now(50) ? " or " : " and ").append(now(50) ? "fell " : "rose ").append(below(100));
+        }
+        return b.toString();
     }
 
     // ---- acts
@@ -374,7 +385,7 @@ public final class FuzzTest {
             String s = drawnSteps(0);
             giveText("ways", s.length() > 300 ? "try;" : s);
         } else if (way < 16) {
-            String s = drawnLine(0) + ";";
+            String s = (now(6) ? longLine() : drawnLine(0)) + ";";
             giveText("line", s.length() > 300 ? "fell 1;" : s);
         } else if (way < 20) {
             call(now(60) ? "mark" : "back");
